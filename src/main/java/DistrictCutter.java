@@ -959,8 +959,9 @@ public final class DistrictCutter {
             }
         }
 
+        /** Doubles what is too short, so that all rows ever made stay below four times the greatest need. */
         private static int[] atLeast(int[] row, int room) {
-            return row.length >= room ? row : new int[room];
+            return row.length >= room ? row : new int[Math.max(room, 2 * row.length)];
         }
 
         /** In how many ways the rest can be parted into so many sets more. */
@@ -986,7 +987,7 @@ public final class DistrictCutter {
         private int waysAhead(int left, int rest, int purse, int end) {
             int sum = 0;
             int set = rest;
-            int choices = choices(rest);
+            int choices = choicesOf(rest);
             for (int i = 0; i < choices && set != end; i++) {
                 sum += waysWith(left, rest, purse, set);
                 set = following(set, rest);
@@ -1003,7 +1004,7 @@ public final class DistrictCutter {
         }
 
         /** How many sets there are of the rest that have its least place. */
-        private static int choices(int rest) {
+        private static int choicesOf(int rest) {
             return rest == 0 ? 0 : 1 << (Integer.bitCount(rest) - 1);
         }
 
@@ -1018,13 +1019,13 @@ public final class DistrictCutter {
             int ahead = number;
             for (int left = law.k; left > 1; left--) {
                 int set = rest;
-                int choices = choices(rest);
+                int choices = choicesOf(rest);
                 for (int i = 0; i < choices; i++) {
-                    int ways = waysWith(left, rest, purse, set);
-                    if (ahead < ways) {
+                    int found = waysWith(left, rest, purse, set);
+                    if (ahead < found) {
                         break;
                     }
-                    ahead -= ways;
+                    ahead -= found;
                     set = following(set, rest);
                 }
                 chosen[law.k - left] = set;
@@ -1041,7 +1042,7 @@ public final class DistrictCutter {
                 return;
             }
             int set = rest;
-            int choices = choices(rest);
+            int choices = choicesOf(rest);
             for (int i = 0; i < choices; i++) {
                 if (waysWith(left, rest, purse, set) > 0) {
                     chosen[law.k - left] = set;
