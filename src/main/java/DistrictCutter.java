@@ -18,6 +18,7 @@ public final class DistrictCutter {
     private static final int MOST_MENDED = 2;
     private static final int MOST_CLASS_PLACES = 12;
     private static final int MOST_SURVEYED = 20000;
+    private static final int ANY_NUMBER = Integer.MAX_VALUE;
     private static final int TOWNS = 10;
     private static final int LAWS = 6;
     private static final int MEASURES = 7;
@@ -216,12 +217,12 @@ public final class DistrictCutter {
     // ---- classes
 
     public int count() {
-        int refusal = openClasses();
+        int refusal = openClasses(ANY_NUMBER);
         return refusal < 0 ? refusal : classes.total();
     }
 
     public int kth(int i) {
-        int refusal = openClasses();
+        int refusal = openClasses(ANY_NUMBER);
         if (refusal < 0) {
             return refusal;
         }
@@ -233,12 +234,12 @@ public final class DistrictCutter {
     }
 
     public int which() {
-        int refusal = openClasses();
+        int refusal = openClasses(ANY_NUMBER);
         return refusal < 0 ? refusal : classes.rank(theParting);
     }
 
     public int same(int i) {
-        int refusal = openClasses();
+        int refusal = openClasses(ANY_NUMBER);
         if (refusal < 0) {
             return refusal;
         }
@@ -252,12 +253,9 @@ public final class DistrictCutter {
         if (!isMeasure(m)) {
             return NONE;
         }
-        int refusal = openClasses();
+        int refusal = openClasses(MOST_SURVEYED);
         if (refusal < 0) {
             return refusal;
-        }
-        if (classes.total() > MOST_SURVEYED) {
-            return BIG;
         }
         classes.survey(m, 0);
         return classes.lowest;
@@ -267,12 +265,9 @@ public final class DistrictCutter {
         if (!isMeasure(m) || !isWithin(how, 0, 2)) {
             return NONE;
         }
-        int refusal = openClasses();
+        int refusal = openClasses(MOST_SURVEYED);
         if (refusal < 0) {
             return refusal;
-        }
-        if (classes.total() > MOST_SURVEYED) {
-            return BIG;
         }
         classes.survey(m, scale.weigh(theParting, m));
         return classes.tally[how];
@@ -323,7 +318,7 @@ public final class DistrictCutter {
     // ---- what calls refuse: below 0, or 0 if nothing is refused
 
     /** Makes the book of classes ready, too: all calls that ask it come by here. */
-    private int openClasses() {
+    private int openClasses(int mostClasses) {
         if (theLand.places > MOST_CLASS_PLACES) {
             return BIG;
         }
@@ -331,7 +326,7 @@ public final class DistrictCutter {
             return EMPTY;
         }
         classes.prepare();
-        return 0;
+        return classes.total() > mostClasses ? BIG : 0;
     }
 
     private int changeRefusal() {
@@ -396,6 +391,7 @@ public final class DistrictCutter {
             int found = start & set;
             int open = found;
             for (int i = 0; i < MOST_PLACES && open != 0; i++) {
+                // last(open), written out: this is the innermost of the deepest calls
                 int place = MOST_PLACES - 1 - Integer.bitCount((open & -open) - 1);
                 int fresh = next[place] & set & ~found;
                 found |= fresh;

@@ -95,6 +95,8 @@ public final class LandTest {
         check.due("NONE ahead of FULL, length", x.border(13, 14, 0), NONE);
         check.due("101st border", x.border(13, 14, 1), FULL);
         check.due("100 borders", x.land(1), 100);
+        check.due("the edge of place 0: 100 and thirteen of 1", x.measure(0), 100 + 13);
+        check.due("told from district 1", x.district(1, 5), 100 + 13);
     }
 
     private static void law() {

@@ -21,9 +21,13 @@ public final class ModelTest {
             ModelTest test = new ModelTest(run, hits);
             all.due("run " + run, test.wrongAnswers(), 0);
         }
+        for (int run = 3000; run < 3120; run++) {
+            ModelTest test = new ModelTest(run, hits);
+            all.due("wide run " + run, test.wrongWideAnswers(), 0);
+        }
         String[] rare = {"a step that changed", "a walk with changes", "better that moved", "mend of people",
             "mend by nobody", "class above 0", "same", "law 1", "law 2", "law 3", "law 4", "law 5", "law 6",
-            "-6", "among below", "least of none", "mend by two"};
+            "-6", "among below", "least of none", "mend by two", "a wide step that changed"};
         for (int i = 0; i < rare.length; i++) {
             all.holds("runs met often enough: " + rare[i] + " (" + hits[i] + ")", hits[i] >= 20);
         }
@@ -73,6 +77,44 @@ public final class ModelTest {
             for (int p = 0; p < y.places.size(); p++) {
                 agree("at(" + p + ")", x.at(p), y.at(p));
             }
+        }
+        return wrong;
+    }
+
+    /** Steps and changes in lands of 30 places and up to 100 borders. */
+    private int wrongWideAnswers() {
+        for (int tries = 0; tries < 300 && y.places.size() < 30; tries++) {
+            addPlace(20, 20, 10);
+        }
+        for (int p = 1; p < 30; p++) {
+            int q = p - 1 - pick(Math.min(p, 4));
+            boolean turned = pick(2) == 0;
+            addBorder(turned ? q : p, turned ? p : q);
+        }
+        int more = pick(2) == 0 ? 300 : pick(60);
+        for (int i = 0; i < more; i++) {
+            addBorder(pick(30), pick(30));
+        }
+        agree("land(1)", x.land(1), y.land(1));
+        int k = 2 + pick(2);
+        agree("law", x.law(k, 1000), y.law(k, 1000));
+        for (int d = 1; d < k; d++) {
+            int p = 28 + d % 2;
+            agree("put", x.put(p, d), y.put(p, d));
+        }
+        for (int i = 0; i < 12; i++) {
+            int s = random.nextInt();
+            note(17, agree("step", x.step(s), y.step(s)) == 1);
+            agree("walk", x.walk(5, s, i % 7), y.walk(5, s, i % 7));
+            agree("district", x.district(0, 5), y.district(0, 5));
+            agree("measure", x.measure(i % 7), y.measure(i % 7));
+            for (int p = 0; p < 30; p++) {
+                agree("at(" + p + ")", x.at(p), y.at(p));
+            }
+        }
+        agree("better", x.better(), y.better());
+        for (int p = 0; p < 30; p++) {
+            agree("at(" + p + ")", x.at(p), y.at(p));
         }
         return wrong;
     }
