@@ -822,8 +822,14 @@ public final class DistrictCutter {
      * how many sets and with how many towns to cut, can be parted in a number of ways, kept once told.
      */
     private static final class ClassBook {
-        private static final int UNTOLD = -1;
         private static final int BARRED = -1;
+        private static final int MOST_SETS = 1 << MOST_CLASS_PLACES;
+        // twelve places make six towns that can be cut: a bound that bars something leaves 0 .. 5 cuts
+        private static final int MOST_PURSES = 6;
+        // three numbers of ways have room in a long: none is beyond 246730, eleven places in five sets
+        private static final int WAYS_BITS = 21;
+        private static final int WAYS_MASK = (1 << WAYS_BITS) - 1;
+        private static final int WAYS_PER_SLOT = 3;
 
         int lowest;
         final int[] tally;
@@ -832,14 +838,13 @@ public final class DistrictCutter {
         private final Court court;
         private final Scale scale;
         private final int[] chosen;
-        private int[] prices;
-        private int[] shares;
-        private int[] told;
+        private final int[] prices;
+        private final long[] told;
         private boolean isFresh;
         private int everywhere;
         private int shift;
-        private int half;
         private int budget;
+        private int all;
         private int mark;
 
         ClassBook(Land land, Law law, Court court, Scale scale) {
@@ -849,9 +854,8 @@ public final class DistrictCutter {
             this.scale = scale;
             tally = new int[3];
             chosen = new int[MOST_DISTRICTS];
-            prices = new int[0];
-            shares = new int[0];
-            told = new int[0];
+            prices = new int[MOST_SETS];
+            told = new long[MOST_SETS * MOST_PURSES / WAYS_PER_SLOT];
         }
 
         /** The land or the law is another one now. */
@@ -867,20 +871,19 @@ public final class DistrictCutter {
             isFresh = true;
             everywhere = land.everywhere();
             shift = MOST_PLACES - land.places;
-            half = 1 << (land.places - 1);
             boolean isBound = severalPlaceTowns() > law.cutsAllowed;
             budget = isBound ? law.cutsAllowed : 0;
             fillPrices(isBound);
-            told = atLeast(told, (law.k - 1) * half * (budget + 1));
-            Arrays.fill(told, UNTOLD);
+            clearTold();
+            all = law.k > 1 ? waysAhead(law.k, everywhere, budget, 0) : ways(law.k, everywhere, budget);
         }
 
         int total() {
-            return ways(law.k, everywhere, budget);
+            return all;
         }
 
         boolean hasNumber(int number) {
-            return isWithin(number, 0, total() - 1);
+            return isWithin(number, 0, all - 1);
         }
 
         /** The number of a parting's class; NONE if that is not lawful. */
@@ -918,11 +921,9 @@ public final class DistrictCutter {
             lowest = NO_CLASS;
             mark = bar;
             Arrays.fill(tally, 0);
-            if (total() == 0) {
-                return;
+            if (all > 0) {
+                visit(law.k, everywhere, budget, m);
             }
-            fillShares(m);
-            visit(law.k, everywhere, budget, m);
         }
 
         private int severalPlaceTowns() {
@@ -937,8 +938,8 @@ public final class DistrictCutter {
 
         /** What each set takes of the cuts that are allowed, or BARRED where it can be no district. */
         private void fillPrices(boolean isBound) {
-            prices = atLeast(prices, 2 * half);
-            for (int slot = 0; slot < 2 * half; slot++) {
+            int sets = 1 << land.places;
+            for (int slot = 0; slot < sets; slot++) {
                 int set = slot << shift;
                 if (!court.mayBeDistrict(set)) {
                     prices[slot] = BARRED;
@@ -948,35 +949,42 @@ public final class DistrictCutter {
             }
         }
 
-        private void fillShares(int m) {
-            shares = atLeast(shares, 2 * half);
-            for (int slot = 0; slot < 2 * half; slot++) {
-                shares[slot] = prices[slot] == BARRED ? 0 : scale.shareOf(slot << shift, m);
+        /** Only what this land and this law can ask: the row is longer than most need. */
+        private void clearTold() {
+            int asked = (budget / WAYS_PER_SLOT + 1) << land.places;
+            for (int slot = 0; slot < asked; slot++) {
+                told[slot] = 0;
             }
         }
 
-        /** Doubles what is too short, so that all rows ever made stay below four times the greatest need. */
-        private static int[] atLeast(int[] row, int room) {
-            return row.length >= room ? row : new int[Math.max(room, 2 * row.length)];
-        }
-
-        /** In how many ways the rest can be parted into so many sets more. */
+        /** In how many ways the rest can be parted into so many sets more, one set or more being chosen. */
         private int ways(int left, int rest, int purse) {
             if (left <= 1) {
                 int price = prices[rest >>> shift];
                 return price != BARRED && price <= purse ? 1 : 0;
             }
-            int slot = slotOf(left, rest, purse);
-            if (told[slot] == UNTOLD) {
-                told[slot] = waysAhead(left, rest, purse, 0);
+            if (rest == 0) {
+                return 0;
             }
-            return told[slot];
+            int slot = slotOf(left, rest, purse);
+            int lowBit = purse % WAYS_PER_SLOT * WAYS_BITS;
+            // entries are one more than the ways: 0 is what is not told yet
+            int entry = (int) (told[slot] >>> lowBit) & WAYS_MASK;
+            if (entry == 0) {
+                entry = 1 + waysAhead(left, rest, purse, 0);
+                told[slot] |= (long) entry << lowBit;
+            }
+            return entry - 1;
         }
 
-        /** Place 0 is in the rest only while all sets are still to be chosen: its bit is not needed. */
+        /**
+         * Each set that is chosen takes the least place of what is left: behind n of them the rest has
+         * no place below n. So the rests behind one are half of all sets, those behind two a quarter,
+         * and all of them together have room in a row of all sets.
+         */
         private int slotOf(int left, int rest, int purse) {
-            int rested = (rest >>> shift) & (half - 1);
-            return ((left - 2) * half + rested) * (budget + 1) + purse;
+            int rests = 1 << (land.places - (law.k - left));
+            return ((purse / WAYS_PER_SLOT) << land.places) + rests + (rest >>> shift);
         }
 
         /** As ways(), but only with those next sets that come ahead of one; none is behind set 0. */
@@ -1033,26 +1041,22 @@ public final class DistrictCutter {
 
         private void visit(int left, int rest, int purse, int m) {
             if (left <= 1) {
-                chosen[law.k - 1] = rest;
-                note(m);
+                scale.shares[law.k - 1] = scale.shareOf(rest, m);
+                note(scale.together(m));
                 return;
             }
             int set = rest;
             int choices = choicesOf(rest);
             for (int i = 0; i < choices; i++) {
                 if (waysWith(left, rest, purse, set) > 0) {
-                    chosen[law.k - left] = set;
+                    scale.shares[law.k - left] = scale.shareOf(set, m);
                     visit(left - 1, rest & ~set, purse - prices[set >>> shift], m);
                 }
                 set = following(set, rest);
             }
         }
 
-        private void note(int m) {
-            for (int district = 0; district < law.k; district++) {
-                scale.shares[district] = shares[chosen[district] >>> shift];
-            }
-            int value = scale.together(m);
+        private void note(int value) {
             tally[1 + Integer.compare(value, mark)]++;
             if (lowest == NO_CLASS || value < lowest) {
                 lowest = value;

@@ -18,6 +18,7 @@ public final class ClassesTest {
         tooManyToSurvey();
         justFewEnough();
         changesAreSeen();
+        changesAreSeenWithManyTowns();
         check.end("ClassesTest");
     }
 
@@ -320,5 +321,53 @@ public final class ClassesTest {
         check.holds("a kept town", x.count() > kept);
         x.cuts(0);
         check.due("no cuts", x.count(), kept);
+    }
+
+    /** What was told of an earlier land or law is not told of the next: each count is that of a new object. */
+    private static void changesAreSeenWithManyTowns() {
+        int[][] changes = {{0, 5, 1000}, {1, 0, 1}, {1, 0, 0}, {0, 4, 700}, {2, 3, 9}, {2, 8, 1}, {0, 6, 1000}, {3, 0, 11},
+            {3, 2, 9}, {1, 3, 1}, {2, 11, 4}, {3, 1, 6}, {0, 3, 400}, {1, 3, 0}, {3, 5, 10}, {0, 3, 500}, {2, 0, 3}};
+        for (int cuts = 0; cuts <= 6; cuts++) {
+            DistrictCutter old = ringOfTowns(cuts);
+            for (int done = 0; done <= changes.length; done++) {
+                DistrictCutter fresh = ringOfTowns(cuts);
+                for (int i = 0; i < done; i++) {
+                    change(fresh, changes[i]);
+                }
+                if (done > 0) {
+                    change(old, changes[done - 1]);
+                }
+                int due = fresh.count();
+                check.due("cuts " + cuts + ", change " + done + ": count", old.count(), due);
+                check.due("cuts " + cuts + ", change " + done + ": kth", old.kth(due / 2), fresh.kth(due / 2));
+                for (int p = 0; p < 12; p++) {
+                    check.due("cuts " + cuts + ", change " + done + ": at(" + p + ")", old.at(p), fresh.at(p));
+                }
+                check.due("cuts " + cuts + ", change " + done + ": which", old.which(), due == 0 ? NONE : due / 2);
+            }
+        }
+    }
+
+    private static void change(DistrictCutter x, int[] call) {
+        switch (call[0]) {
+            case 0: x.law(call[1], call[2]); break;
+            case 1: x.keep(call[1], call[2]); break;
+            case 2: x.people(call[1], call[2]); break;
+            default: x.border(call[1], call[2], 1); break;
+        }
+    }
+
+    private static DistrictCutter ringOfTowns(int cuts) {
+        DistrictCutter x = new DistrictCutter();
+        for (int p = 0; p < 12; p++) {
+            x.place(5, 0, 0, 1, p / 2);
+        }
+        for (int p = 0; p < 12; p++) {
+            x.border(p, (p + 1) % 12, 1);
+            x.border(p, (p + 5) % 12, 1);
+        }
+        x.law(6, 1000);
+        x.cuts(cuts);
+        return x;
     }
 }
