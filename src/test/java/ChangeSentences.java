@@ -39,6 +39,8 @@ final class ChangeSentences {
         s.run(line(1000, new int[] {1, 1, 1, 1}, 1, 9, 1), "put(2, 1); put(3, 1); fix(1, 0); fix(2, 1); better() = 0; fix(2, 0) = 1;"
             + "better() = KIND; fix(2, -1); better() = 1; at(1) = 0; at(2) = 0");
         s.run(Script.made("place(0, 0, 0, 1, 0); law(1, 0)"), "better() = 0");
+        s.run(Lands.line(new int[7], 9, 9, 9, 9, 1, 2), "law(6, 0); put(1, 1); put(2, 2); put(3, 3); put(4, 4); put(5, 4);"
+            + "put(6, 5); measure(0) = 38; better() = 1; at(4) = 3; at(5) = 4; at(6) = 5; measure(0) = 30; better() = 0");
         s.of(section, "the least place that can, to the least such district, is.");
         s.run(line(1000, new int[4], 5, 9, 3), "put(2, 1); put(3, 1); better() = 1; at(0) = 0; at(1) = 1; at(2) = 1; measure(0) = 5");
         s.run(line(1000, new int[4], 5, 9, 3), "put(2, 1); put(3, 1); fix(1, 0); better() = 1; at(2) = 0; measure(0) = 3");

@@ -79,6 +79,69 @@ final class ClassSentences {
         s.run(free(6, 6), "count() = 1");
         s.run(free(1, 1), "count() = 1; kth(0) = 1; which() = 0; at(0) = 0");
         s.run(free(1, 2), "count() = 0; kth(0) = NONE; which() = NONE; same(0) = NONE");
+        for (int k = 1; k <= 6; k++) {
+            sixTowns(k);
+        }
+    }
+
+    /** Twelve places in six towns of two: so many may be cut, from none to more than there are. */
+    private void sixTowns(int k) {
+        DistrictCutter x = new DistrictCutter();
+        for (int p = 0; p < 12; p++) {
+            x.place(0, 0, 0, 1, 3 + p % 6);
+            for (int q = 0; q < p; q++) {
+                x.border(q, p, 1);
+            }
+        }
+        x.law(k, 0);
+        int all = 0;
+        for (int cuts = 0; cuts <= 10; cuts++) {
+            int such = cuts > 6 ? 0 : withCuts(k, cuts);
+            x.cuts(cuts);
+            s.due("K = " + k + ", cuts(" + cuts + "): count()", x.count(), all + such);
+            all += such;
+            for (int number : new int[] {0, all / 3, all - 1}) {
+                boolean is = number >= 0 && number < all;
+                s.run(x, "kth(" + number + ") = " + (is ? "1; lawful() = 0; which() = " + number : "NONE"));
+            }
+            s.due("K = " + k + ", cuts(" + cuts + "): least(1)", x.least(1), all > 20000 ? -4 : all == 0 ? -2000000 : leastCut(k));
+            x.law(k, 0);
+            s.due("K = " + k + ", cuts(" + cuts + "): among(1, 2)", x.among(1, 2), all > 20000 ? -4 : all - withCuts(k, 0));
+        }
+    }
+
+    private static int leastCut(int k) {
+        return withCuts(k, 0) > 0 ? 0 : 1;
+    }
+
+    /** How many classes of K sets cut just so many of the six towns: partings, less those that leave districts empty. */
+    private static int withCuts(int k, int cut) {
+        long partings = 0;
+        for (int empty = 0; empty <= k; empty++) {
+            long used = k - empty;
+            long here = choose(6, cut) * power(used, 6 - cut) * power(used * (used - 1), cut) * choose(k, empty);
+            partings += empty % 2 == 0 ? here : -here;
+        }
+        for (int i = 2; i <= k; i++) {
+            partings /= i;
+        }
+        return (int) partings;
+    }
+
+    private static long choose(int of, int some) {
+        long ways = 1;
+        for (int i = 0; i < some; i++) {
+            ways = ways * (of - i) / (i + 1);
+        }
+        return ways;
+    }
+
+    private static long power(long base, int times) {
+        long product = 1;
+        for (int i = 0; i < times; i++) {
+            product *= base;
+        }
+        return product;
     }
 
     private void numbers() {
@@ -102,6 +165,11 @@ final class ClassSentences {
         s.of(section, "How many LAWFUL CLASSES there are.");
         s.run(four(), "count() = 3; law(1, 0); count() = 1; law(4, 0); count() = 1; law(5, 1000); count() = 0; law(6, 1000);"
             + "count() = 0");
+        // what there is now, whatever was counted before
+        s.run(Lands.line(new int[] {1, 1, 1, 1}), "law(2, 0); count() = 1; people(0, 3) = 1; count() = 1; kth(0); at(1) = 1;"
+            + "people(0, 1); border(0, 3, 1); count() = 2; border(0, 2, 1); count() = 2; place(0, 0, 0, 1, 0) = 4; count() = 0;"
+            + "border(4, 1, 1); count() = 2; law(1, 0); count() = 1; place(0, 0, 0, 1, 0); count() = 0; law(2, 1000); count() = 1;"
+            + "keep(0, 1); count() = 0; keep(0, 0); count() = 1; cuts(0); count() = 0; cuts(1); count() = 1");
         int[] parts = {1, 2047, 86526, 611501, 1379400, 1323652};
         for (int k = 1; k <= 6; k++) {
             s.due("all partings of 12 places, K = " + k, free(12, k).count(), parts[k - 1]);

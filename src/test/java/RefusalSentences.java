@@ -37,7 +37,7 @@ final class RefusalSentences {
             + "among(0, 0) = EMPTY; step(7) = EMPTY; walk(5, 7, 1) = EMPTY; better() = EMPTY; mend(0) = EMPTY; mend(2) = EMPTY"},
         {"lawful", WRONG_NUMBERS + "why(0) = NONE; why(1) = NONE; border(0, 6, 1) = NONE; border(6, 0, 1) = NONE;"
             + "border(1, 0, 7) = NONE; border(0, 1, 7) = NONE; border(0, 2, 0) = NONE; border(0, 2, 101) = NONE; fix(6, 0) = NONE;"
-            + "fix(0, 3) = NONE; people(6, 5) = NONE; put(6, 0) = NONE; put(0, 3) = NONE; at(6) = NONE; district(3, 0) = NONE;"
+            + "fix(0, 3) = NONE; fix(3, -2) = NONE; fix(3, 3) = NONE; fix(3, MIN) = NONE; people(6, 5) = NONE; put(6, 0) = NONE; put(0, 3) = NONE; at(6) = NONE; district(3, 0) = NONE;"
             + "kth(-1) = NONE; kth(9) = NONE; kth(MAX) = NONE; same(-1) = NONE; same(9) = NONE; same(MIN) = NONE"},
         {"unlawful", WRONG_NUMBERS + NOT_LAWFUL + "which() = NONE; kth(9) = NONE; why(1) = NONE; why(2) = NONE"},
         {"never walked", UNSEEN + NOT_LAWFUL + "walk(0, 7, 1) = NONE; walk(5, 7, 9) = NONE"},

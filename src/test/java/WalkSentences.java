@@ -336,6 +336,7 @@ final class WalkSentences {
             s.due("seen(" + how + ")", x.seen(how), due[how]);
             s.holds("something for how " + how, due[how] > 0);
         }
+        shortWalks();
         s.of(section, "NONE: no such how, or before any");
         s.within(making + "walk(2, 1, 0)", "seen(?)", 0, 5);
         s.run("seen(0) = NONE; seen(1) = NONE; seen(2) = NONE; seen(3) = NONE; seen(4) = NONE; seen(5) = NONE; seen(6) = NONE;"
@@ -346,6 +347,21 @@ final class WalkSentences {
         for (int m = 0; m < 7; m++) {
             DistrictCutter y = Script.made("place(0, 0, 0, 1, 0); place(0, 0, 0, 1, 1); put(1, 1); walk(2, 1, " + m + ")");
             s.run(y, "seen(3) = 0; seen(4) = 0");
+        }
+    }
+
+    /** Of one, two and three steps: each of them may have the least and the greatest value. */
+    private void shortWalks() {
+        for (int steps = 1; steps <= 3; steps++) {
+            for (int seed : SEEDS) {
+                Ring ring = new Ring(1000, false, 0, 0, 0, 0, 0, 0);
+                DistrictCutter x = ring.land();
+                int[] due = sights(ring, seed, steps);
+                x.walk(steps, seed, 0);
+                for (int how = 0; how < 6; how++) {
+                    s.due("walk(" + steps + ", " + seed + ", 0): seen(" + how + ")", x.seen(how), due[how]);
+                }
+            }
         }
     }
 }
