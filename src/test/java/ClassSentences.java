@@ -259,6 +259,8 @@ final class ClassSentences {
         s.of(section, "-2000000: there is none.");
         s.run(four(), "law(5, 1000); least(0) = -2000000; least(6) = -2000000; law(4, 1000); least(0) = 17");
         s.run("place(0, 0, 0, 1, 0); count() = 0; least(3) = -2000000; law(1, 0); least(3) = 0");
+        s.run("place(0, 0, 0, 1, 0); place(0, 0, 0, 1, 0); law(1, 1000); count() = 0; least(0) = -2000000; border(0, 1, 1);"
+            + "least(0) = 0");
         s.of(section, "NONE: no such MEASURE;");
         s.run("least(-1) = NONE; least(7) = NONE; least(MIN) = NONE; least(MAX) = NONE; least(6) = EMPTY");
         s.run(thirteen(), "least(-1) = NONE; least(7) = NONE; least(0) = BIG; least(6) = BIG");
@@ -278,6 +280,8 @@ final class ClassSentences {
         s.run(four(), "among(0, 0) = 0; among(0, 1) = 0; among(0, 2) = 3; kth(1); among(0, 0) = 0; among(0, 1) = 1;"
             + "among(0, 2) = 2; kth(2); among(0, 0) = 1; among(0, 1) = 1; among(0, 2) = 1; put(2, 0); among(0, 0) = 3;"
             + "among(0, 1) = 0; among(0, 2) = 0; law(5, 0); among(0, 0) = 0; among(0, 1) = 0; among(0, 2) = 0");
+        s.run("place(0, 0, 0, 1, 0); place(0, 0, 0, 1, 0); law(1, 1000); among(0, 0) = 0; among(0, 1) = 0; among(0, 2) = 0;"
+            + "border(0, 1, 1); among(0, 1) = 1");
         s.of(section, "NONE, BIG (as least()), EMPTY.");
         s.run("among(0, 0) = EMPTY; among(6, 2) = EMPTY; among(-1, 0) = NONE; among(7, 0) = NONE; among(0, -1) = NONE;"
             + "among(0, 3) = NONE; among(MIN, MAX) = NONE");

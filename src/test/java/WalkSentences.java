@@ -160,6 +160,13 @@ final class WalkSentences {
             s.due("named anew if there is a seam", ring.part[0], ring.withoutSeam);
         }
         s.holds("with and without seams: " + stayed + " of 40", stayed > 5 && stayed < 35);
+        // the same in the greatest land: only the last place and all others fit
+        int[] people = new int[30];
+        java.util.Arrays.fill(people, 1);
+        people[29] = 29;
+        Ring greatest = new Ring(0, false, people).splitAt(29);
+        ringsAgree("ring of 30", greatest, 1, 12);
+        s.holds("most have no seam: " + greatest.withoutSeam, greatest.withoutSeam > 6);
     }
 
     /** A walk tells whether a step without seams draws a number more: all behind it would be other ones. */
