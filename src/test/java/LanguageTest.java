@@ -16,9 +16,11 @@ public final class LanguageTest {
         + "measure/1 district/2 land/1 count/0 kth/1 which/0 same/1 least/1 among/2 step/1 walk/3 seen/1 better/0 mend/1";
 
     public static void main(String[] args) throws Exception {
+        String source = Files.readString(Path.of("src/main/java/DistrictCutter.java"));
         face();
+        faceOfTheDocument(source);
         classesInside();
-        words(Files.readString(Path.of("src/main/java/DistrictCutter.java")));
+        words(source);
         check.end("LanguageTest");
     }
 
@@ -46,6 +48,26 @@ public final class LanguageTest {
         check.due("BIG", DistrictCutter.BIG, -4);
         check.due("EMPTY", DistrictCutter.EMPTY, -5);
         check.holds("final", Modifier.isFinal(DistrictCutter.class.getModifiers()));
+    }
+
+    /** Each line of the document's face stands in the program, with the names of what a call takes. */
+    private static void faceOfTheDocument(String source) throws Exception {
+        Path document = Path.of("../shared/DOC.md");
+        if (!Files.isReadable(document)) {
+            System.out.println(document + " is not there: its face is not looked up");
+            return;
+        }
+        Matcher block = Pattern.compile("(?s)## The public face\\s+```java\n(.*?)```").matcher(Files.readString(document));
+        boolean found = block.find();
+        check.holds("the document has a face", found);
+        int calls = 0;
+        for (String line : (found ? block.group(1) : "").split("\n")) {
+            boolean isCall = line.endsWith(");");
+            calls += isCall ? 1 : 0;
+            String due = isCall ? line.substring(0, line.length() - 1) + " {" : line;
+            check.holds("the program has the line: " + due, ("\n" + source).contains("\n" + due + "\n"));
+        }
+        check.due("calls and constructors of the document's face", calls, FACE.split(" ").length + 1);
     }
 
     private static void classesInside() {

@@ -65,6 +65,9 @@ public final class RoomTest {
         count(new DistrictCutter(), new IdentityHashMap<>());
         check.holds("a new object is " + objects + " objects and arrays", objects * (CALLS + 1) <= MOST_OBJECTS);
         check.holds("a new object has " + elements + " fields and elements", elements * (CALLS + 1) <= MOST_ELEMENTS);
+        String told = objects + " objects and arrays with " + elements + " fields and elements";
+        String readme = Files.readString(Path.of("README.md")).replaceAll("\\s+", " ");
+        check.holds("README.md tells of " + told, readme.contains("A new object is " + told));
     }
 
     private static void count(Object thing, Map<Object, Boolean> known) throws Exception {
